@@ -19,7 +19,7 @@ public final class CoastThree {
 
     private static final int KEYS = 3, LOG = 0, NEEDLE = 1, WATCH = 2;
     private static final int BY_SHIP = 0, WALKED = 1, DRAWN_SHUT = 2, DRAWN_OPEN = 3, HOWS = 4;
-    private static final int MISSING = -1, INTS = 0, FLOATS = 1;
+    private static final int MISSING = -1, FLOATS = 1;
     private static final int A_MARK = 1, A_SHEET = 2, A_NUMBER = 3, THINGS = 4;
 
     private final Reader reader = new Reader();

@@ -18,6 +18,7 @@ public final class CapesTest {
         pairsAreJoined();
         passagesAreTold();
         whatIsBetween();
+        eachTwoByThemselves();
         namesThatAreOnePlace();
         theKeptName();
         due.end();
@@ -126,6 +127,34 @@ public final class CapesTest {
         x.put(5, 3);
         x.put(6, 3);
         due.is("14: a width of 0", x.next(), 3);
+        CoastThree y = new CoastThree();
+        y.mark(0, 0, 0, 0);
+        y.put(0, 0);
+        due.is("14: the first cape", y.next(), 0);
+        y.put(0, 8);
+        due.is("14: the last cape", y.next(), 8);
+    }
+
+    /** Each two capes by themselves: none has the passages of another two. */
+    private static void eachTwoByThemselves() {
+        for (int one = 0; one < 9; one++) {
+            for (int other = 0; other < one; other++) {
+                for (int how = 0; how < 4; how++) {
+                    twoAlone(one, other, how);
+                }
+            }
+        }
+    }
+
+    private static void twoAlone(int one, int other, int how) {
+        int[] want = {2, 1, 5, 4};
+        CoastThree x = new CoastThree();
+        x.passage(one, other, how);
+        for (int a = 0; a < 9; a++) {
+            for (int b = 0; b < a; b++) {
+                due.is("20: between(" + a + ", " + b + ")", x.between(a, b), a == one && b == other ? want[how] : 0);
+            }
+        }
     }
 
     private static void marksAreChosen() {
@@ -146,6 +175,8 @@ public final class CapesTest {
         due.is("16: none counted", x.count(4), 0);
         due.is("16: chosen anew", x.choose(12), 1);
         due.is("16: of the other", x.choose(1), 1);
+        due.is("15: it is, of voyage 2", x.choose(1), NO);
+        due.is("15: it is, of voyage 0", x.choose(12), NO);
     }
 
     /** Marks of KIND 0 (both spans together 40), told in order: those of voyage 0, then of voyage 1. */
@@ -258,6 +289,10 @@ public final class CapesTest {
         due.is("18: mark 1 by its pair", x.told(1, 5), 5);
         due.is("18: no pair, no cape", x.told(3, 5), NONE);
         due.is("18: no marks", x.join(0, 2), 0);
+        x = told(new int[] {100}, new int[] {101});
+        x.put(0, 0);
+        due.is("18: the first pair, the first cape", x.join(0, 1), 1);
+        due.is("18: put so", x.told(1, 5), 0);
     }
 
     private static void passagesAreTold() {

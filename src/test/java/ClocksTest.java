@@ -8,6 +8,7 @@ public final class ClocksTest {
     public static void main(String[] args) {
         clocksAreSet();
         settings();
+        settingsOfEachCape();
         settingsOfSeveralCapes();
         settingsInPlaceOfAny();
         settingsAreHeld();
@@ -77,6 +78,21 @@ public final class ClocksTest {
         for (int[] b : bad) {
             due.is("24: BAD", x.clock(b[0], b[1], b[2]), BAD);
         }
+    }
+
+    /** Each cape counts, and none that is asked for no more. */
+    private static void settingsOfEachCape() {
+        CoastThree x = fixAndShore();
+        for (int c = 0; c < 9; c++) {
+            x.put(0, c);
+            x.put(1, c);
+            clock(x, 0, 0, 25, -2, 22);
+        }
+        x.mark(7, 200, 900, 0);
+        x.put(2, 8);
+        clock(x, 0, 0, 0, NONE, NONE);
+        x.put(0, 7);
+        clock(x, 0, 0, 101, -50, 50);
     }
 
     private static void settingsOfSeveralCapes() {
@@ -230,6 +246,9 @@ public final class ClocksTest {
         fill(x, 2, 0, 1, 9, 4);
         due.is("27: the fewest", x.from(1), 3);
         due.is("27: of another", x.from(2), 1);
+        fill(x, 0, 0, 1, 2, 3);
+        due.is("27: the first sheet", x.from(1), 0);
+        due.is("27: no changes at all", x.from(0), 1);
         x.sheet(0, 0, 0);
         due.is("27: an empty one is there", x.from(0), 3);
         x.sheet(3, -1, 0);
@@ -288,6 +307,8 @@ public final class ClocksTest {
         due.is("30: what does not hold", x.held(), 2 + 4 + 16 + 32 + 256);
         x.put(8, -1);
         due.is("30: what is not seen", x.held(), 2 + 4 + 16 + 32);
+        x.survey(0, 100);
+        due.is("30: the first cape", x.held(), 1 + 2 + 4 + 16 + 32);
     }
 
     private static void missesAndBest() {

@@ -25,7 +25,7 @@ public final class FaceTest {
         due.end();
     }
 
-    private static void face() throws IllegalAccessException {
+    private static void face() {
         Class<?> c = CoastThree.class;
         due.holds("rule 1: public and final", Modifier.isPublic(c.getModifiers()) && Modifier.isFinal(c.getModifiers()));
         Constructor<?>[] made = c.getDeclaredConstructors();
@@ -47,6 +47,12 @@ public final class FaceTest {
             constants += open && f.getType() == int.class && Modifier.isStatic(f.getModifiers()) ? 1 : 0;
         }
         due.is("face: constants", constants, 8);
+        int[] told = {CoastThree.BAD, CoastThree.NO, CoastThree.FULL, CoastThree.NONE, CoastThree.NOTHING, CoastThree.KIND,
+            CoastThree.INDEX, CoastThree.SIZE};
+        int[] numbers = {1, 2, 3, 5, 11, 12, 13, 14};
+        for (int i = 0; i < told.length; i++) {
+            due.is("face: constant " + i, told[i], -1000000000 - numbers[i]);
+        }
     }
 
     private static void nested() {

@@ -162,6 +162,11 @@ public final class LawsTest {
         due.is("9: used up by a fault", x.count(7), 0);
         due.is("9: empty", x.law(), -100);
         due.is("9: a fault is no text", x.count(2), 1);
+        String[] faulty = {"log 0 da", "log", "lo", "log 5", "log 12345", "log1", "log 0 (((", "log 0 !!!", "log 0 (!(", ""};
+        for (int i = 0; i < faulty.length; i++) {
+            Tape.law(x, faulty[i]);
+            due.is("9: a good one behind '" + faulty[i] + "'", Tape.law(x, "log 0 !(((((((!d)))))))"), i + 1);
+        }
     }
 
     private static void textsAreFull() {

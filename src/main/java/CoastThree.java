@@ -1319,6 +1319,8 @@ public final class CoastThree {
     /** SETTINGS of a clock; least and greatest are NONE while there are none. */
     private static final class Settings {
         private static final int FURTHEST = 50;
+        /** Further off than any mark can say that a cape is. */
+        private static final int FAR = 1000000;
         int many, least, greatest;
         /** What does not change from one setting to the next is worked out once for each mark. */
         private final int[] law = new int[MARKS];
@@ -1358,8 +1360,8 @@ public final class CoastThree {
 
         private boolean allHold(Coast coast, int voyage, int day, int s) {
             for (int c = 0; c < CAPES; c++) {
-                low[c] = Integer.MIN_VALUE;
-                high[c] = Integer.MAX_VALUE;
+                low[c] = -FAR;
+                high[c] = FAR;
             }
             for (int i = 0; i < coast.markCount; i++) {
                 Mark m = coast.marks[i];

@@ -307,6 +307,8 @@ public final class CapesTest {
         due.is("19: the 21st", x.passage(0, 1, 0), FULL);
         due.is("19: BAD ahead of FULL", x.passage(0, 1, 4), BAD);
         due.is("19: counted", x.count(3), 20);
+        due.is("20: of the last one", x.between(2, 3), 2);
+        due.is("20: of none of twenty", x.between(0, 4), 0);
     }
 
     private static void whatIsBetween() {

@@ -90,6 +90,10 @@ public final class FaceTest {
             Matcher found = Pattern.compile("(?<![A-Za-z])" + Pattern.quote(word) + "(?![A-Za-z])").matcher(code);
             due.holds("rules 2, 4, 6: no " + word, !found.find());
         }
+        Matcher library = Pattern.compile("\\b(Integer|Long|Math|System|Arrays|String|List)\\.(\\w+)").matcher(code);
+        while (library.find()) {
+            due.holds("rule 4: " + library.group(), Set.of("min", "max", "abs", "bitCount", "arraycopy").contains(library.group(2)));
+        }
         methodsAreShort(code.split("\n"));
     }
 

@@ -563,46 +563,43 @@ public final class CoastThree {
     }
 
     public int ask(int slot, int kind) {
-        if (!isBelow(slot, SLOTS) || !isBelow(kind, ABOVE.length)) {
-            return BAD;
+        int lack = isBelow(kind, ABOVE.length) ? lackOf(slot, A_MARK) : BAD;
+        if (lack != 0) {
+            return lack;
         }
-        Slot s = slots[slot];
-        if (s.thing == 0) {
-            return NOTHING;
-        }
-        return s.thing == A_MARK && isUnder(s.kind, kind) ? worthOf(s.kind) : KIND;
+        int own = slots[slot].kind;
+        return isUnder(own, kind) ? worthOf(own) : KIND;
     }
 
     public int item(int slot, int place) {
-        if (!isBelow(slot, SLOTS)) {
-            return BAD;
+        int lack = lackOf(slot, A_SHEET);
+        if (lack != 0) {
+            return lack;
         }
-        Slot s = slots[slot];
-        if (s.thing == 0) {
-            return NOTHING;
-        }
-        if (s.thing != A_SHEET) {
-            return KIND;
-        }
-        if (!isBelow(place, s.sheet.size)) {
+        Sheet s = slots[slot].sheet;
+        if (!isBelow(place, s.size)) {
             return INDEX;
         }
-        int v = s.sheet.row[place];
-        return s.sheet.isFog(v) ? KIND : v;
+        return s.isFog(s.row[place]) ? KIND : s.row[place];
     }
 
     public int rest(int slot, int n) {
+        int lack = lackOf(slot, A_NUMBER);
+        if (lack != 0) {
+            return lack;
+        }
+        return n == 0 ? NO : slots[slot].number % n;
+    }
+
+    /** Why a slot can't be asked for such a thing: a refusal, or 0 if it can. */
+    private int lackOf(int slot, int thing) {
         if (!isBelow(slot, SLOTS)) {
             return BAD;
         }
-        Slot s = slots[slot];
-        if (s.thing == 0) {
+        if (slots[slot].thing == 0) {
             return NOTHING;
         }
-        if (s.thing != A_NUMBER) {
-            return KIND;
-        }
-        return n == 0 ? NO : s.number % n;
+        return slots[slot].thing == thing ? 0 : KIND;
     }
 
     // ---- rows, images

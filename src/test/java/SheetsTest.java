@@ -22,18 +22,11 @@ public final class SheetsTest {
     }
 
     private static void fill(CoastThree x, int sheet, int sort, int... row) {
-        x.sheet(sheet, sort, row.length);
-        for (int i = 0; i < row.length; i++) {
-            due.is("36: write", x.write(sheet, i, row[i]), 1);
-        }
+        Rows.fill(due, x, sheet, sort, row);
     }
 
     private static void row(String where, CoastThree x, int sheet, int... want) {
-        x.lay(4, 2, sheet);
-        for (int i = 0; i < want.length; i++) {
-            due.is(where + " place " + i, x.item(4, i), want[i]);
-        }
-        due.is(where + " its end", x.item(4, want.length), INDEX);
+        Rows.are(due, where, x, sheet, want);
     }
 
     private static void sheetsAreMade() {

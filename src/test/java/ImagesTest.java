@@ -47,21 +47,27 @@ public final class ImagesTest {
         }
     }
 
-    private static void sightsAreChecked() {
+    private static CoastThree threeSurveyed() {
         CoastThree x = new CoastThree();
         x.survey(7, 300);
         x.survey(2, 40);
         x.survey(5, 999);
         x.seed(-123456789);
         x.keep();
+        return x;
+    }
+
+    private static void sightsAreChecked() {
+        CoastThree x = threeSurveyed();
         int[] seen = sights(-123456789, 20, 150, 40, 999, 300);
         tellAll(x, seen, 60);
         due.is("44: all sixty", x.check(20, 150), 0);
         for (int wrong = 0; wrong < 60; wrong += 7) {
+            CoastThree y = threeSurveyed();
             seen[wrong]++;
-            tellAll(x, seen, 60);
+            tellAll(y, seen, 60);
             seen[wrong]--;
-            due.is("44: number " + wrong + " is not right", x.check(20, 150), 1 + wrong);
+            due.is("44: number " + wrong + " is not right", y.check(20, 150), 1 + wrong);
         }
         for (int n = 1; n < 4; n++) {
             tellAll(x, seen, 3 * n);
